@@ -187,6 +187,8 @@ public final class PromiseTest {
     private static void row() {
         CartFloor x = new CartFloor(3, 3);
         x.mark(1, 1, 7);
+        x.mark(2, 0, 8);
+        x.mark(0, 2, 9);
         due("3: row there stays", x.row(1, false), 0);
         due("3: its marks stay", x.mark(1, 1, 7), 1007);
         due("3: row(1, true)", x.row(1, true), 0);
@@ -195,6 +197,8 @@ public final class PromiseTest {
         due("3: row(1, false)", x.row(1, false), 1);
         due("3: row(1, false) again", x.row(1, false), 0);
         due("3: its marks are lost", x.mark(1, 1, 7), 1000);
+        due("3: those of the row above stay", x.mark(2, 0, 8), 1008);
+        due("3: those of the row below stay", x.mark(0, 2, 9), 1009);
         due("3: row(-1)", x.row(-1, true), -2);
         due("3: row(3)", x.row(3, true), -2);
         due("3: row(MAX)", x.row(MAX, true), -2);
@@ -462,6 +466,15 @@ public final class PromiseTest {
         due("7: a guest against a cart", w.guest(0), -11);
         w.errand(1, 3, 0, -1);
         due("7: away from the guest", w.plan(1), 1);
+        CartFloor v = new CartFloor(4, 2);
+        v.lay(1, 1, 1);
+        v.cart(PLAIN, 0, 0, EAST);
+        v.cart(PLAIN, 2, 1, NORTH);
+        v.errand(0, 3, 0, -1);
+        v.errand(1, 1, 0, -1);
+        due("7: along row 0", v.plan(0), 3);
+        due("7: changing places is meeting", v.plan(1), 4);
+        same("7: its way", way(v, 1), "0014");
     }
 
     private static void planForGood() {
@@ -539,6 +552,17 @@ public final class PromiseTest {
         due("7: passes under the shelf at tick 2", y.plan(0), 3);
         same("7: its way", way(y, 0), "233");
         due("7: no lifting at tick 1 then, and none is sought later", y.plan(1), -1);
+        CartFloor z = new CartFloor(6, 2);
+        z.lay(1, 0, 2);
+        z.lay(2, 1, 2);
+        z.shelf(1, 0);
+        z.cart(LIFTER, 5, 0, WEST);
+        z.cart(LIFTER, 1, 1, NORTH);
+        z.errand(0, 0, 0, -1);
+        z.errand(1, 2, 1, 0);
+        due("7: passes under the shelf at tick 4", z.plan(0), 5);
+        due("7: it is lifted before", z.plan(1), 5);
+        same("7: its way", way(z, 1), "15326");
     }
 
     private static void planLong() {
@@ -558,6 +582,16 @@ public final class PromiseTest {
         due("7: to its square behind: it turns and goes back", x.plan(0), 2);
         same("7: its way", way(x, 0), "32");
         due("7: one turn", x.about(0, 2), 1);
+        CartFloor u = new CartFloor(3, 2);
+        u.cart(LONG, 2, 0, EAST);
+        u.errand(0, 1, 0, -1);
+        due("7: back to the edge", u.plan(0), 1);
+        same("7: its way", way(u, 0), "2");
+        CartFloor t = new CartFloor(2, 2);
+        t.cart(LONG, 0, 1, WEST);
+        t.errand(0, 1, 0, -1);
+        due("7: a turn in the first corner", t.plan(0), 1);
+        same("7: its way", way(t, 0), "4");
         CartFloor y = new CartFloor(2, 2);
         y.cart(LONG, 1, 0, EAST);
         y.cart(PLAIN, 1, 1, NORTH);
@@ -607,6 +641,26 @@ public final class PromiseTest {
         z.errand(1, 0, 2, -1);
         due("7: below the four", z.plan(1), 2);
         same("7: its way", way(z, 1), "44");
+        String[] ways = {"43", "443", "3444", "34444", "444443"};
+        for (int i = 0; i < ways.length; i++) {
+            CartFloor v = new CartFloor(3 + i, 3);
+            v.cart(GUEST, 1, 0, EAST);
+            v.cart(PLAIN, 2 + i, 1, WEST);
+            tellAll(v, "0004");
+            v.guest(0);
+            v.errand(1, 1, 2, -1);
+            due("7: past the corner from " + (2 + i), v.plan(1), 2 + i);
+            same("7: the corner is held at ticks 3 and 4, from " + (2 + i), way(v, 1), ways[i]);
+        }
+        CartFloor w = new CartFloor(3, 3);
+        w.cart(LONG, 1, 0, EAST);
+        w.cart(PLAIN, 2, 1, WEST);
+        w.errand(0, 0, 2, -1);
+        w.errand(1, 1, 2, -1);
+        due("7: a long turns, then goes on", w.plan(0), 2);
+        same("7: its way", way(w, 0), "41");
+        due("7: its corner is held at tick 1", w.plan(1), 2);
+        same("7: its way", way(w, 1), "34");
     }
 
     private static CartFloor held(int waits, boolean withShelf) {
@@ -639,6 +693,16 @@ public final class PromiseTest {
         due("7: 401 are too many", z.plan(0), -1);
         due("7: nothing is gone", z.about(0, 1), 0);
         due("7: nor lifted", z.at(0, 5, 2), -1);
+        CartFloor w = new CartFloor(5, 2);
+        w.row(1, true);
+        w.cart(PLAIN, 0, 0, EAST);
+        w.cart(GUEST, 2, 0, EAST);
+        w.tell(0, 399);
+        w.tell(1, 1);
+        due("7: the guest leaves at last", w.guest(1), 400);
+        w.errand(0, 2, 0, -1);
+        due("7: none within 400", w.plan(0), -1);
+        due("7: still open", w.about(0, 3), 1);
     }
 
     private static void many() {
@@ -768,6 +832,25 @@ public final class PromiseTest {
         y.many();
         due("9: past the guest", y.stop(1, 3), 0);
         same("9: the guest goes on", way(y, 0), "00011");
+        for (int wall = 0; wall < 2; wall++) {
+            CartFloor z = new CartFloor(5, 3);
+            z.lay(3, 1, 1);
+            z.lay(4, 1, wall);
+            z.cart(GUEST, 1, 0, EAST);
+            z.cart(PLAIN, 3, 0, WEST);
+            z.cart(PLAIN, 4, 0, WEST);
+            tellAll(z, "0001");
+            due("9: the guest", z.guest(0), 4);
+            z.errand(1, 1, 1, -1);
+            z.errand(2, 2, 2, -1);
+            due("9: one behind the other", z.many(), 2);
+            same("9: the first", way(z, 1), "434");
+            same("9: the second", way(z, 2), "4433");
+            String all = view(z);
+            due("9: the second is planned or stranded, then the guest is troubled", z.stop(1, 1), -3);
+            same("9: all is as it was, wall " + wall, view(z), all);
+            due("9: past it, the guest is not", z.stop(1, 3), 0);
+        }
     }
 
     private static void stopCarrying() {
@@ -835,6 +918,18 @@ public final class PromiseTest {
         same("9: its way", way(y, 2), "02222");
         due("9: it stops where the shelf was", y.stop(1, 2), 1);
         same("9: the other one goes around", way(y, 2), "0232221");
+        CartFloor z = new CartFloor(5, 2);
+        z.lay(2, 0, 2);
+        z.lay(4, 1, 2);
+        z.shelf(2, 0);
+        z.cart(LIFTER, 3, 0, WEST);
+        z.cart(PLAIN, 0, 0, EAST);
+        z.errand(0, 4, 1, 0);
+        z.errand(1, 2, 0, -1);
+        due("9: the lifter", z.plan(0), 6);
+        due("9: to where the shelf was", z.plan(1), 3);
+        due("9: the shelf stays there, alone", z.stop(0, 0), 0);
+        due("9: stranded by a shelf", z.about(1, 4), 2);
     }
 
     private static void stopLong() {
@@ -884,6 +979,19 @@ public final class PromiseTest {
         due("10: nothing moved", x.at(0, 0, 0), 3);
         due("10: an errand again", x.errand(0, 1, 0, 0), 1);
         due("10: planned again", x.plan(0), 4);
+        CartFloor y = new CartFloor(4, 3);
+        y.lay(1, 0, 2);
+        y.lay(3, 0, 2);
+        y.shelf(1, 0);
+        y.cart(LIFTER, 0, 0, EAST);
+        y.cart(LIFTER, 0, 2, EAST);
+        due("10: one cart's shelf", y.errand(0, 3, 0, 0), 1);
+        due("10: not another's today", y.errand(1, 3, 0, 0), -2);
+        y.dawn();
+        due("10: no errand has it", y.safe() ? 1 : 0, 1);
+        due("10: another's tomorrow", y.errand(1, 3, 0, 0), 1);
+        due("10: the first one's without", y.errand(0, 0, 1, -1), 1);
+        due("10: both planned", y.many(), 2);
     }
 
     private static void tellHush() {
@@ -988,6 +1096,10 @@ public final class PromiseTest {
         due("13: it lifts once", x.check(0), -14);
         tellAll(x, "1256");
         due("13: and lets down", x.check(0), 4);
+        tellAll(x, "12565");
+        due("13: and lifts again", x.check(0), 5);
+        tellAll(x, "1254");
+        due("13: carrying shelf 0, under shelf 1", x.check(0), -14);
         tellAll(x, "5");
         due("13: nothing to lift", x.check(0), -11);
         tellAll(x, "044");
@@ -1017,6 +1129,10 @@ public final class PromiseTest {
         due("13: and lifted again", x.check(1), 2);
         tellAll(x, "625");
         due("13: let down, gone on: nothing there", x.check(1), -13);
+        tellAll(x, "2265442");
+        due("13: brought, let down, lifted again", x.check(1), 7);
+        tellAll(x, "226445");
+        due("13: nothing where it was", x.check(1), -16);
         tellAll(x, "25");
         due("13: carrying it can't lift", x.check(1), -12);
     }
@@ -1058,6 +1174,13 @@ public final class PromiseTest {
         due("13: a turn over the wall at tick 4", x.check(0), -14);
         tellAll(x, "111");
         due("13: off the floor ahead", x.check(0), -13);
+        CartFloor y = new CartFloor(3, 3);
+        y.cart(LONG, 1, 0, EAST);
+        y.cart(PLAIN, 1, 2, NORTH);
+        y.errand(1, 1, 1, -1);
+        due("13: comes to the corner at tick 1", y.plan(1), 1);
+        tellAll(y, "4");
+        due("13: the corner is held behind the turn, too", y.check(0), -11);
     }
 
     private static void guest() {
@@ -1183,6 +1306,7 @@ public final class PromiseTest {
         x.errand(0, 2, 0, -1);
         x.errand(1, 1, 0, -1);
         x.errand(2, 2, 1, -1);
+        due("18: three are open", x.count(3), 3);
         due("18: many", x.many(), 2);
         int[] want = {3, 1, 3, 1, 0, 0, 5, 3, 0};
         for (int what = 0; what < 9; what++) {
@@ -1271,10 +1395,17 @@ public final class PromiseTest {
         due("20: a shelf on the first square", u.safe() ? 1 : 0, 0);
         CartFloor s = new CartFloor(3, 2);
         s.lay(0, 0, 2);
+        s.lay(2, 0, 2);
         s.shelf(0, 0);
         s.cart(LIFTER, 1, 0, EAST);
-        s.errand(0, 0, 0, 0);
+        s.errand(0, 2, 0, 0);
         due("20: an errand with a shelf", s.safe() ? 1 : 0, 0);
+        CartFloor r = new CartFloor(3, 2);
+        r.lay(1, 0, 1);
+        r.lay(1, 1, 1);
+        r.cart(PLAIN, 2, 0, EAST);
+        r.errand(0, 0, 0, -1);
+        due("20: no path to the first square", r.safe() ? 1 : 0, 0);
         CartFloor l = new CartFloor(3, 2);
         l.cart(LONG, 1, 0, EAST);
         due("20: a long", l.safe() ? 1 : 0, 0);
@@ -1358,6 +1489,29 @@ public final class PromiseTest {
         three.errand(1, 0, 0, -1);
         three.errand(2, 2, 1, -1);
         due("21: the one in the way stays", three.few(0, 1, -1), 11);
+        due("21: nor is it worth its while to move", three.few(0, 1, 2), 11);
+        three.dawn();
+        three.errand(0, 0, 1, -1);
+        three.errand(1, 4, 1, -1);
+        three.errand(2, 0, 0, -1);
+        due("21: others the next day", three.few(0, 1, 2), 1 + 1 + 3);
+        due("21: two of them", three.few(2, 0, -1), 4);
+        CartFloor two = new CartFloor(5, 2);
+        two.cart(PLAIN, 0, 0, EAST);
+        two.cart(PLAIN, 0, 1, EAST);
+        two.cart(PLAIN, 2, 0, WEST);
+        two.cart(LONG, 3, 1, EAST);
+        two.errand(0, 4, 0, -1);
+        two.errand(1, 1, 1, -1);
+        due("21: two others shut the way", two.few(0, 1, -1), -1);
+        CartFloor wall = new CartFloor(4, 2);
+        wall.lay(2, 0, 1);
+        wall.lay(2, 1, 1);
+        wall.cart(PLAIN, 0, 0, EAST);
+        wall.cart(PLAIN, 0, 1, EAST);
+        wall.errand(0, 3, 0, -1);
+        wall.errand(1, 1, 1, -1);
+        due("21: walls shut the way", wall.few(0, 1, -1), -1);
     }
 
     private static void fewShelves() {

@@ -90,6 +90,10 @@ public final class RandomTest {
             for (int j = 0; j < 4 && !failed && !endless; j++) {
                 act();
             }
+            if (random.nextInt(6) == 0) {
+                noise();
+                compareUnlessFailed();
+            }
         }
     }
 
@@ -145,6 +149,44 @@ public final class RandomTest {
             due("tell(" + move + ", 1)", floor.tell(move, 1), oracle.tell(move, 1));
         }
         due("guest(" + c + ")", floor.guest(c), oracle.guest(c));
+    }
+
+    private int odd() {
+        int[] edges = {Integer.MIN_VALUE, Integer.MAX_VALUE, -1, 0, 1, 2, 3, 7, 8, 9, 10, 40, 41, 400, 401, 402};
+        return random.nextInt(8) == 0 ? random.nextInt() : edges[random.nextInt(edges.length)];
+    }
+
+    /** Every call once, with arguments at and far behind all edges. */
+    private void noise() {
+        int a = odd();
+        int b = odd();
+        int c = odd();
+        int d = odd();
+        int e = odd();
+        String told = "(" + a + ", " + b + ", " + c + ", " + d + ", " + e + ") as far as it takes";
+        due("lay" + told, floor.lay(a, b, c), oracle.lay(a, b, c));
+        due("row" + told, floor.row(a, b > 0), oracle.row(a, b > 0));
+        due("shelf" + told, floor.shelf(a, b), oracle.shelf(a, b));
+        due("cart" + told, floor.cart(a, b, c, d), oracle.cart(a, b, c, d));
+        due("errand" + told, floor.errand(a, b, c, d), oracle.errand(a, b, c, d));
+        due("plan" + told, floor.plan(a), oracle.plan(a));
+        due("stop" + told, floor.stop(a, b), oracle.stop(a, b));
+        due("tell" + told, floor.tell(a, b), oracle.tell(a, b));
+        due("check" + told, floor.check(a), oracle.check(a));
+        due("guest" + told, floor.guest(a), oracle.guest(a));
+        due("at" + told, floor.at(a, b, c), oracle.at(a, b, c));
+        due("shelved" + told, floor.shelved(a, b), oracle.shelved(a, b));
+        due("about" + told, floor.about(a, b), oracle.about(a, b));
+        due("count" + told, floor.count(a), oracle.count(a));
+        due("few" + told, floor.few(a, b, c), oracle.few(a, b, c));
+        due("hang" + told, floor.hang(a, b, c), oracle.hang(a, b, c));
+        due("take" + told, floor.take(a, b), oracle.take(a, b));
+        due("weight" + told, floor.weight(a), oracle.weight(a));
+        due("mark" + told, floor.mark(a, b, c), oracle.mark(a, b, c));
+        due("copy" + told, floor.copy(a, b, c, d, e), oracle.copy(a, b, c, d, e));
+        due("line" + told, floor.line(a, b), oracle.line(a, b));
+        due("slot" + told, floor.slot(a, b), oracle.slot(a, b));
+        due("mean" + told, floor.mean(a), oracle.mean(a));
     }
 
     private void compareUnlessFailed() {
