@@ -89,7 +89,7 @@ public final class CartFloor {
             return REFUSED;
         }
         long place = bit(square);
-        boolean taken = ((floor.barred | traffic.shelfMask(0, NONE) | traffic.stoodOn(0, NONE)) & place) != 0;
+        boolean taken = ((floor.barred | traffic.shelfMask(0, NONE) | traffic.stoodOnFirst()) & place) != 0;
         if (taken || floor.ground[square] != SHELF_PLACE) {
             return REFUSED;
         }
@@ -109,7 +109,7 @@ public final class CartFloor {
         if (kind >= LONG && Long.bitCount(hold) < 2) {
             return REFUSED;
         }
-        long others = traffic.stoodOn(0, NONE) | (kind == LIFTER ? 0L : traffic.shelfMask(0, NONE));
+        long others = traffic.stoodOnFirst() | (kind == LIFTER ? 0L : traffic.shelfMask(0, NONE));
         if ((hold & (floor.barred | others)) != 0) {
             return REFUSED;
         }
@@ -920,12 +920,11 @@ public final class CartFloor {
             return mask;
         }
 
-        long stoodOn(int t, int except) {
+        /** What all carts stand on at tick 0. */
+        long stoodOnFirst() {
             long mask = 0;
             for (int i = 0; i < cartCount; i++) {
-                if (i != except) {
-                    mask |= carts[i].stands[Math.min(t, settled)];
-                }
+                mask |= carts[i].stands[0];
             }
             return mask;
         }

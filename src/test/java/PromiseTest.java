@@ -839,6 +839,7 @@ public final class PromiseTest {
             z.cart(GUEST, 1, 0, EAST);
             z.cart(PLAIN, 3, 0, WEST);
             z.cart(PLAIN, 4, 0, WEST);
+            z.cart(PLAIN, 0, 2, WEST);
             tellAll(z, "0001");
             due("9: the guest", z.guest(0), 4);
             z.errand(1, 1, 1, -1);
@@ -846,6 +847,7 @@ public final class PromiseTest {
             due("9: one behind the other", z.many(), 2);
             same("9: the first", way(z, 1), "434");
             same("9: the second", way(z, 2), "4433");
+            due("9: one that only stands stops", z.stop(3, 1), 0);
             String all = view(z);
             due("9: the second is planned or stranded, then the guest is troubled", z.stop(1, 1), -3);
             same("9: all is as it was, wall " + wall, view(z), all);
