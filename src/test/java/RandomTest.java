@@ -16,7 +16,7 @@ public final class RandomTest {
         {0, 0, 0, 0, 0, 1, 1, 1, 1, 2}};
     private static int wrong = 0;
     static int mostRounds = 0;
-    static final int[] TALLY = new int[12];
+    static final int[] TALLY = new int[13];
 
     private final Random random;
     private final CartFloor floor;
@@ -62,7 +62,7 @@ public final class RandomTest {
         System.out.println(runs + " runs, " + cut + " cut short, most rounds of a stop " + mostRounds
             + ", plans found/none " + TALLY[0] + "/" + TALLY[1] + ", stops refused/guest/0/more " + TALLY[2] + "/"
             + TALLY[3] + "/" + TALLY[4] + "/" + TALLY[5] + ", stranded " + TALLY[6] + ", checks right/not " + TALLY[7]
-            + "/" + TALLY[8] + ", few found/none " + TALLY[9] + "/" + TALLY[10]);
+            + "/" + TALLY[8] + ", few found/none " + TALLY[9] + "/" + TALLY[10] + ", safe days " + TALLY[11]);
         System.out.println(wrong == 0 ? "all answers are as due" : wrong + " runs are not as due");
         if (wrong != 0) {
             System.exit(1);
@@ -114,14 +114,32 @@ public final class RandomTest {
         for (int i = 0; i < 3 && theme == FEW; i++) {
             few();
         }
+        int safe = isSafeAndNew() ? oracle.count(2) : -1;
         int want = oracle.many();
         TALLY[0] += want;
         due("many()", floor.many(), want);
+        if (safe >= 0) {
+            TALLY[11] += safe > 0 ? 1 : 0;
+            due("20: as safe() promises, many()", want, safe);
+        }
         compareUnlessFailed();
         for (int i = 0; i < 3 && random.nextInt(3) > 0 && !failed && !endless; i++) {
             stop();
             compareUnlessFailed();
         }
+    }
+
+    /** Whether safe() promises that many() finds a PLAN for each ERRAND. */
+    private boolean isSafeAndNew() {
+        if (!floor.safe() || oracle.count(3) != oracle.count(2) || oracle.count(4) + oracle.count(5) > 0) {
+            return false;
+        }
+        for (int c = 0; c < oracle.carts.size(); c++) {
+            if (oracle.about(c, 1) > 0 || oracle.at(c, 0, 2) >= 0) {
+                return false;
+            }
+        }
+        return true;
     }
 
     /** A way for a guest that is right, step by step. */
@@ -326,7 +344,7 @@ public final class RandomTest {
     private void plan() {
         int c = cartNumber();
         int want = oracle.plan(c);
-        TALLY[want >= 0 ? 0 : want == -1 ? 1 : 11]++;
+        TALLY[want >= 0 ? 0 : want == -1 ? 1 : 12]++;
         due("plan(" + c + ")", floor.plan(c), want);
     }
 
@@ -419,7 +437,7 @@ public final class RandomTest {
         int b = cartNumber();
         int c = random.nextInt(3) == 0 ? -1 : cartNumber();
         int want = oracle.few(a, b, c);
-        TALLY[want >= 0 ? 9 : want == -1 ? 10 : 11]++;
+        TALLY[want >= 0 ? 9 : want == -1 ? 10 : 12]++;
         due("few(" + a + ", " + b + ", " + c + ")", floor.few(a, b, c), want);
     }
 

@@ -1,7 +1,7 @@
 import com.sun.management.ThreadMXBean;
 import java.lang.management.ManagementFactory;
 
-/** All calls of a run live in one room: a new object is small, and calls make next to nothing. */
+/** All 512 calls of a run live in one room: a new object is small, and calls make next to nothing. */
 public final class RoomTest {
     private static final ThreadMXBean THREADS = (ThreadMXBean) ManagementFactory.getThreadMXBean();
     /** Of 7.3 million elements; one counted as 8 bytes, the longest. */
@@ -38,8 +38,16 @@ public final class RoomTest {
             x.safe();
             x.dawn();
         }
+        for (int k = 0; k < 24; k++) {
+            x.stop(2, k);
+        }
+        int last = x.count(8);
         long calls = made() - before;
-        System.out.println("a new object: " + object + " bytes, 480 calls: " + calls + " bytes");
+        System.out.println("a new object: " + object + " bytes, all 512 calls: " + calls + " bytes");
+        if (last != 40) {
+            System.out.println("the 512th call, count(8), answered " + last + ", due is 40");
+            System.exit(1);
+        }
         if (object > OBJECT || calls > CALLS) {
             System.out.println("that is too much");
             System.exit(1);
